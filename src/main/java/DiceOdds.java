@@ -896,10 +896,13 @@ public final class DiceOdds {
         }
 
         private void showFace(long[][] tally, int placed, int more, int face) {
-            int gain = face * (Math.min(placed + more, picked) - Math.min(placed, picked));
+            int before = Math.min(placed, picked);
+            int gain = face * (Math.min(placed + more, picked) - before);
             long choices = choicesOf(more, count - placed);
-            for (int sum = 0; sum + gain <= picked * sides; sum++) {
-                tally[placed + more][sum + gain] += choices * tally[placed][sum];
+            long[] from = tally[placed];
+            long[] to = tally[placed + more];
+            for (int sum = 0; sum <= before * sides; sum++) {
+                to[sum + gain] += choices * from[sum];
             }
         }
 
