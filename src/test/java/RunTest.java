@@ -194,6 +194,7 @@ public final class RunTest {
         Check.same("result behind OVER", Check.result(x, 0), "1:1 2:1 3:1 4:1 5:1 6:1");
         Check.due("runs again", x, y -> y.run(0), 0);
         Check.same("result again", Check.result(x, 0), "1:1 2:1 3:1 4:1 5:1 6:1");
+        Check.due("total again", x, y -> y.total(0), 6);
         int[] noSlots = {-1, 3, Integer.MIN_VALUE, Integer.MAX_VALUE};
         for (int slot : noSlots) {
             Check.due("run of slot " + slot, x, y -> y.run(slot), Check.ARGUMENT);
