@@ -73,8 +73,7 @@ public final class PrintTest {
     private static void wrongCalls() {
         DiceOdds x = Check.with("A=1;", 0);
         Check.typeAll(x, "B");
-        int[] noSlots = {-1, 3, Integer.MIN_VALUE, Integer.MAX_VALUE};
-        for (int slot : noSlots) {
+        for (int slot : Check.NO_SLOTS) {
             Check.due("print of slot " + slot, x, y -> y.print(slot), Check.ARGUMENT);
         }
         Check.due("print of a slot without program", x, y -> y.print(1), Check.STATE);

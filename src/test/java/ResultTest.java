@@ -1,7 +1,5 @@
 /** Promises 11 to 19: the reports of outcomes, and comparisons. */
 public final class ResultTest {
-    private static final int[] NO_SLOTS = {-1, 3, Integer.MIN_VALUE, Integer.MAX_VALUE};
-
     public static void main(String[] args) {
         outcomes();
         moments();
@@ -137,7 +135,7 @@ public final class ResultTest {
 
     private static void withoutSlot() {
         DiceOdds x = Check.ran("A=d6;", 0);
-        for (int s : NO_SLOTS) {
+        for (int s : Check.NO_SLOTS) {
             Check.due("outcomes", x, y -> y.outcomes(s), Check.ARGUMENT);
             Check.due("outcome", x, y -> y.outcome(s, 0), Check.ARGUMENT);
             Check.due("ways", x, y -> y.ways(s, 0), Check.ARGUMENT);
