@@ -231,7 +231,8 @@ public final class CallEdgesTest {
     }
 
     private static void firstWrong() {
-        String signs = "!\"#$%&'()*+,-./0123456789:;<=>?@ABCDEFGHIJKLMNOPQRSTUVWXYZ[\\]^_`abcdefghijklmnopqrstuvwxyz{|}~";
+        String signs = "!\"#$%&'()*+,-./0123456789:;<=>?"
+            + "@ABCDEFGHIJKLMNOPQRSTUVWXYZ[\\]^_`abcdefghijklmnopqrstuvwxyz{|}~";
         wrongBehind("", signs, "ABCDEF!?*");
         wrongBehind("A", signs, "=");
         wrongBehind("A=", signs, "ABCDEF0123456789d[-(");

@@ -128,7 +128,7 @@ final class Check {
         return x;
     }
 
-    /** An object of which everything has been used: a text, a place, a result, a program without one, a slot without any. */
+    /** A text, a place where another was wrong, a result in slot 0, a program without one in slot 1, none in slot 2. */
     static DiceOdds used() {
         DiceOdds x = new DiceOdds();
         typeAll(x, "A=1");

@@ -170,10 +170,12 @@ public final class GrammarEdgesTest {
         for (char name = 'A'; name <= 'F'; name++) {
             Check.gives("A=" + name + ";", "0:1");
             Check.ends("!" + name + ";", DiceOdds.IMPOSSIBLE, 1);
+            DiceOdds x = Check.ran("A=" + name + "+5;" + name + "=5;", 0);
+            for (int i = 0; i < 3; i++) {
+                Check.due("run again", x, y -> y.run(0), 0);
+                Check.same("it begins with 0, too", Check.result(x, 0), "5:1");
+            }
         }
-        DiceOdds x = Check.ran("A=A+5;", 0);
-        Check.due("a second run", x, y -> y.run(0), 0);
-        Check.same("a second run begins with 0, too", Check.result(x, 0), "5:1");
     }
 
     private static void numbers() {
@@ -364,6 +366,8 @@ public final class GrammarEdgesTest {
         Check.gives("A=3d3l3;", "3:1 4:3 5:6 6:7 7:6 8:3 9:1");
         Check.gives("A=d3h1;", "1:1 2:1 3:1");
         Check.gives("A=d3l1;", "1:1 2:1 3:1");
+        Check.gives("A=3d3;A=3d2h1;", "1:1 2:7");
+        Check.gives("A=3d3;A=3d2l1;", "1:7 2:1");
         Check.gives("A=6d20h1=20;", "0:47045881 1:16954119");
         Check.gives("A=6d20l1=1;", "0:47045881 1:16954119");
     }

@@ -119,6 +119,13 @@ public final class ReportEdgesTest {
         DiceOdds zero = Check.ran("", 0);
         Check.due("moment 1 of 0", zero, y -> y.moment(0, 1), 0);
         Check.due("moment 2 of 0", zero, y -> y.moment(0, 2), 0);
+        DiceOdds most = Check.ran("A=d8*8+d8;", 0);
+        Check.due("moment 1 of 64 outcomes", most, y -> y.moment(0, 1), 2592);
+        Check.due("moment 2 of 64 outcomes", most, y -> y.moment(0, 2), 126816);
+        Check.put(most, "A=2;", 0);
+        Check.due("run of a program with one outcome", most, y -> y.run(0), 0);
+        Check.due("moment 1 behind a longer result", most, y -> y.moment(0, 1), 2);
+        Check.due("moment 2 behind a longer result", most, y -> y.moment(0, 2), 4);
         DiceOdds least = Check.ran(NEARLY_LEAST, 0);
         Check.due("the least moment 1", least, y -> y.moment(0, 1), -999 * NEARLY_ALL - 998);
         Check.due("the greatest moment 2", least, y -> y.moment(0, 2), 999L * 999 * NEARLY_ALL + 998 * 998);
@@ -176,8 +183,9 @@ public final class ReportEdgesTest {
 
     private static void percentile() {
         // 4 has two ways of three, 7 the third one.
-        int[][] due = {{0, 1, 4}, {1, 1, 7}, {0, 1000, 4}, {1, 1000, 4}, {1, 3, 4}, {2, 3, 4}, {3, 3, 7}, {666, 999, 4},
-            {665, 999, 4}, {667, 999, 7}, {666, 1000, 4}, {667, 1000, 7}, {999, 1000, 7}, {1000, 1000, 7}, {999, 999, 7}};
+        int[][] due = {{0, 1, 4}, {1, 1, 7}, {0, 1000, 4}, {1, 1000, 4}, {1, 3, 4}, {2, 3, 4}, {3, 3, 7},
+            {666, 999, 4}, {665, 999, 4}, {667, 999, 7}, {666, 1000, 4}, {667, 1000, 7}, {999, 1000, 7},
+            {1000, 1000, 7}, {999, 999, 7}};
         for (int[] one : due) {
             Check.leavesAll("percentile " + one[0] + "/" + one[1], x -> x.percentile(0, one[0], one[1]), one[2]);
         }
@@ -215,6 +223,11 @@ public final class ReportEdgesTest {
             int way = p;
             Check.leavesAll("sample " + p, x -> x.sample(0, way), due[p]);
         }
+        int[] ofThree = {1, 3, 3, 8, 8};
+        for (int p = 0; p < 5; p++) {
+            int way = p;
+            Check.due("sample " + p, Check.ran("A=[3,8,3,8,1];", 0), x -> x.sample(0, way), ofThree[p]);
+        }
         Check.due("the only way", Check.ran("A=-7;", 0), x -> x.sample(0, 0), -7);
         DiceOdds x = Check.ran(NEARLY_LEAST, 0);
         Check.due("the first of all ways", x, y -> y.sample(0, 0), -999);
@@ -247,7 +260,8 @@ public final class ReportEdgesTest {
     private static void compared(DiceOdds x, int slot, int other, long... want) {
         for (int sign = -1; sign <= 1; sign++) {
             int s = sign;
-            Check.due("compare of " + slot + " and " + other + " by " + s, x, y -> y.compare(slot, other, s), want[s + 1]);
+            String what = "compare of " + slot + " and " + other + " by " + s;
+            Check.due(what, x, y -> y.compare(slot, other, s), want[s + 1]);
         }
     }
 
@@ -256,6 +270,12 @@ public final class ReportEdgesTest {
         compared(two("A=[4,4,7];", "A=[4,7];"), 0, 2, 2, 3, 1);
         compared(two("A=[4,4,7];", "A=[4,7];"), 2, 0, 1, 3, 2);
         compared(two("A=[4,4,7];", ""), 0, 0, 2, 5, 2);
+        compared(two("A=5;", "A=d9;"), 0, 2, 4, 1, 4);
+        compared(two("A=d9;", "A=5;"), 0, 2, 4, 1, 4);
+        DiceOdds shorter = two("A=d8*8+d8;", "A=d9;");
+        Check.put(shorter, "A=5;", 0);
+        Check.due("run of a program with one outcome", shorter, y -> y.run(0), 0);
+        compared(shorter, 0, 2, 4, 1, 4);
         DiceOdds x = two("A=" + Check.ALL_COINS + ";", "A=" + Check.ALL_COINS + "+32;");
         compared(x, 0, 2, 1L << 62, 0, 0);
         compared(x, 2, 0, 0, 0, 1L << 62);

@@ -99,6 +99,15 @@ public final class RunEdgesTest {
         Check.gives("?1{}:{A=2;}", "0:1");
         Check.gives("A=d3-2;?A{A=7;}:{A=8;}", "7:2 8:1");
         Check.gives("?d3-2{A=7;}:{A=8;}", "7:2 8:1");
+        Check.gives("?d2-1{A=1;}?d2-1{B=1;}A=A+B;", "0:1 1:2 2:1");
+        Check.gives("*2{?d3-2{A=A+1;}:{B=B+1;}}!B=1;", "1:1");
+        Check.gives("?1{?1{?1{?1{A=7;}}}}", "7:1");
+        DiceOdds x = Check.ran("?d3-2{A=7;}:{A=8;}", 0);
+        Check.put(x, "?d2-1{A=3;}", 1);
+        Check.due("run of another program", x, y -> y.run(1), 0);
+        Check.same("its result", Check.result(x, 1), "0:1 3:1");
+        Check.due("run again", x, y -> y.run(0), 0);
+        Check.same("the result again", Check.result(x, 0), "7:2 8:1");
     }
 
     private static void repeats() {
@@ -217,6 +226,13 @@ public final class RunEdgesTest {
         Check.bad("?d3{A=6d16+6d2;}:{A=d8;}", 24);
         Check.factor("?1{A=6d16+6d2+d2;}:{A=6d16+6d2+d2;}", Check.MOST_FALLS);
         wrappedFactors();
+        widestExpression();
+    }
+
+    /** With a factor of 2048000000, so that three parts with 1600, 1600 and 800 values wait for one another. */
+    private static void widestExpression() {
+        String wide = "((d20-11)*80+d20*4+d4)";
+        Check.gives("A=" + wide + "<(" + wide + "<((d20-10)*40+d20*2+d2));", "0:102973 1:101827");
     }
 
     /** Factors of which an int or a long would keep too little. */
@@ -332,6 +348,9 @@ public final class RunEdgesTest {
         Check.ends("A=d8;B=d8;B=d8;", 0, 64);
         Check.ends("A=d8;B=d8;B=d9;", DiceOdds.MANY, 64);
         Check.ends("A=d13;B=d5;B=0;", DiceOdds.MANY, 13);
+        // The first of two states makes 65, the second one only one that is among them already.
+        Check.ends("B=d2;B=(2-B)*(d13*5+d5-6);", DiceOdds.MANY, 2);
+        Check.ends("B=d2;B=(2-B)*(d8*8+d8-9);", 0, 64);
         Check.ends("A=d13;B=d5;!B=1;", DiceOdds.MANY, 13);
         Check.ends("*2{A=A*8+d8;}", 0, 64);
         Check.ends("*3{A=A*8+d8;}", DiceOdds.MANY, 64);
@@ -351,6 +370,15 @@ public final class RunEdgesTest {
         Check.ends("?d2-1{A=d8*8+d8;}:{A=d8*8+d8;}", 0, 64);
         Check.ends("?d2-1{A=d8*8+d8;}:{A=73;}", DiceOdds.MANY, 64);
         Check.ends("?d2-1{A=d8*8+d8;}:{A=72;}", 0, 64);
+        Check.ends("?d2-1{A=d8*8+d8;}:{A=[72,73];}", DiceOdds.MANY, 64);
+        Check.ends("?d2-1{A=d8*8+d8;}:{A=[73,72];}", DiceOdds.MANY, 64);
+        Check.ends("?d2-1{A=[73,72];}:{A=d8*8+d8;}", DiceOdds.MANY, 64);
+        String[] keepingAll = {"!1;", "?1{}", "?0{}", "*1{}", "*0{}", "B=1;"};
+        for (String statement : keepingAll) {
+            DiceOdds x = Check.ran("A=d8*8+d8;" + statement, 0);
+            Check.due("outcomes behind " + statement, x, y -> y.outcomes(0), 64);
+            Check.due("the last one behind " + statement, x, y -> y.outcome(0, 63), 72);
+        }
     }
 
     private static void impossible() {
@@ -371,6 +399,8 @@ public final class RunEdgesTest {
         Check.ends("B=d20;C=1/B;B=0;", 0, 20);
         Check.ends("*2{A=1/(B-1);B=B+1;}", DiceOdds.OVER, 1);
         Check.ends("*1{A=1/(B-1);B=B+1;}", 0, 1);
+        Check.ends("*2{B=B+1;A=1/(B-1);}", DiceOdds.OVER, 1);
+        Check.ends("*2{A=d20;C=d4*B;B=1;}", DiceOdds.MANY, 20);
     }
 
     private static void orderOfChoice() {
