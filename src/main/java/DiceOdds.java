@@ -35,6 +35,8 @@ public final class DiceOdds {
     private static final int MILLION = 1000000;
     private static final int MOST_WHOLE = 1000;
     private static final long MOST_FALLS = 1L << 31;
+    /** Stands for every factor that is too much for a program, so that no long overflows. */
+    private static final long TOO_MANY_FALLS = MOST_FALLS + 1;
 
     /** How tightly an expression binds: comparisons least, what is no operation with two sides most. */
     private static final int COMPARISON = 0;
@@ -262,15 +264,14 @@ public final class DiceOdds {
         return (int) rounded;
     }
 
-    /** A product of factors; one that is too much for a program stays the same too much, so that no long overflows. */
     private static long product(long one, long two) {
-        return Math.min(one * two, MOST_FALLS + 1);
+        return Math.min(one * two, TOO_MANY_FALLS);
     }
 
     private static long power(long base, int times) {
         long falls = 1;
         for (int i = 0; i < times; i++) {
-            falls = product(falls, base);
+            falls = Math.min(falls * base, TOO_MANY_FALLS);
         }
         return falls;
     }
@@ -506,24 +507,20 @@ public final class DiceOdds {
             demand(isName(sign) || isDigit(sign) || sign == 'd' || sign == '[', at);
             demand(leaves < MOST_LEAVES, at);
             leaves++;
-            return leaf(sign);
+            if (isName(sign)) {
+                at++;
+                return new Plain(sign - 'A', 0);
+            }
+            if (isDigit(sign)) {
+                return numberOrDice();
+            }
+            return sign == 'd' ? dice(1) : row();
         }
 
         private Expression inBrackets(int depth) {
             Expression inner = expression(COMPARISON, depth);
             pass(')');
             return inner;
-        }
-
-        private Expression leaf(char sign) {
-            if (isName(sign)) {
-                at++;
-                return new Plain(sign - 'A', 0);
-            }
-            if (sign == 'd') {
-                return dice(1);
-            }
-            return sign == '[' ? row() : numberOrDice();
         }
 
         private Expression numberOrDice() {
@@ -888,17 +885,16 @@ public final class DiceOdds {
                 // Downwards, so that dice that show this face are not counted as placed before it.
                 for (int placed = count - 1; placed >= 0; placed--) {
                     for (int more = 1; more <= count - placed; more++) {
-                        showFace(tally, placed, more, face);
+                        showFace(tally, placed, more, face, choicesOf(more, count - placed));
                     }
                 }
             }
             return Arrays.copyOf(tally[count], greatest + 1);
         }
 
-        private void showFace(long[][] tally, int placed, int more, int face) {
+        private void showFace(long[][] tally, int placed, int more, int face, long choices) {
             int before = Math.min(placed, picked);
             int gain = face * (Math.min(placed + more, picked) - before);
-            long choices = choicesOf(more, count - placed);
             long[] from = tally[placed];
             long[] to = tally[placed + more];
             for (int sum = 0; sum <= before * sides; sum++) {
